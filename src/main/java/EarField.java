@@ -797,7 +797,10 @@ public final class EarField {
     // The bytes of the text, and the reading of them token by token.
     static final class Text {
         static final int MOST = 120;
-        static final int MOST_EVERY = 60;
+        private static final int MOST_EVERY = 60;
+        private static final int OTHER = 0;
+        private static final int LETTER = 1;
+        private static final int DIGIT = 2;
 
         private final int[] bytes = new int[MOST];
         int size;
@@ -869,25 +872,18 @@ public final class EarField {
             while (start < size && byteAt(start) == ' ') start++;
             end = start;
             if (start >= size) return;
+            int kind = kindOf(byteAt(start));
             end++;
-            int first = byteAt(start);
-            while (end < size && isSameRow(first, byteAt(end))) end++;
+            while (end < size && kind != OTHER && kindOf(byteAt(end)) == kind) end++;
         }
 
         private int byteAt(int place) {
             return place >= 0 && place < MOST ? bytes[place] : 0;
         }
 
-        private static boolean isSameRow(int first, int next) {
-            return isLetter(first) && isLetter(next) || isDigit(first) && isDigit(next);
-        }
-
-        private static boolean isLetter(int value) {
-            return value >= 'a' && value <= 'z';
-        }
-
-        private static boolean isDigit(int value) {
-            return value >= '0' && value <= '9';
+        private static int kindOf(int value) {
+            if (value >= 'a' && value <= 'z') return LETTER;
+            return value >= '0' && value <= '9' ? DIGIT : OTHER;
         }
 
         private boolean skipWord(String word) {
@@ -904,7 +900,7 @@ public final class EarField {
             if (end - start < 1 || end - start > 2) return NONE;
             int value = 0;
             for (int i = start; i < end; i++) {
-                if (!isDigit(byteAt(i))) return NONE;
+                if (kindOf(byteAt(i)) != DIGIT) return NONE;
                 value = 10 * value + byteAt(i) - '0';
             }
             return value;
@@ -1450,6 +1446,7 @@ public final class EarField {
         private static final int MOST_COURSES = 7776;
         // More than all misses that may be: it bars a spot.
         private static final int BARRED = 100;
+        private static final int PLACES = 16;
         private static final int[] POWERS = {1, 6, 36, 216, 1296};
         private static final int BY_NONE = 0, SURE = 1, OPEN = 2, NO_COURSE = 3;
 
@@ -1466,9 +1463,11 @@ public final class EarField {
         private int[] least = new int[SPOTS];
         private int[] leastNext = new int[SPOTS];
         // Courses as numbers in base 6, the spot of tick 0 first.
-        private int[] found = new int[MOST_COURSES];
-        private int[] spare = new int[MOST_COURSES];
-        private final byte[] heardAs = new byte[MOST_COURSES];
+        private final int[] found = new int[MOST_COURSES];
+        // Those that still grow: they lack a tick at least.
+        private final int[] growing = new int[MOST_COURSES / SPOTS];
+        // Two bits a place, many places in a number, as a whole row would take much room.
+        private final int[] heardAs = new int[MOST_COURSES / PLACES + 1];
         private int sort;
         private int firstSpot;
         private int laterSpot;
@@ -1567,20 +1566,19 @@ public final class EarField {
         }
 
         private int growCourses(int tick, int many, int allowed) {
+            int old = Math.min(many, growing.length);
+            for (int i = 0; i < old; i++) growing[i] = found[i];
             int grown = 0;
-            for (int i = 0; i < many && i < MOST_COURSES; i++) {
-                int course = found[i] >> 2;
+            for (int i = 0; i < old; i++) {
+                int course = growing[i] >> 2;
                 for (int spot = 0; spot < SPOTS; spot++) {
-                    int misses = (found[i] & 3) + missedAt(tick, spot);
+                    int misses = (growing[i] & 3) + missedAt(tick, spot);
                     if (misses > allowed || !mayGo(course % SPOTS, spot)) continue;
                     if (grown >= MOST_COURSES) return grown;
-                    spare[grown] = SPOTS * course + spot << 2 | misses;
+                    found[grown] = SPOTS * course + spot << 2 | misses;
                     grown++;
                 }
             }
-            int[] old = found;
-            found = spare;
-            spare = old;
             return grown;
         }
 
@@ -1664,7 +1662,10 @@ public final class EarField {
 
         int fewestSettling() {
             int many = listCourses();
-            for (int i = 0; i < many && i < MOST_COURSES; i++) spare[i] = isSo(found[i]) ? 2 : 1;
+            // Whether the claim is so stands in the lowest bit, not to be asked for each set anew.
+            for (int i = 0; i < many && i < MOST_COURSES; i++) {
+                found[i] = found[i] << 1 | (isSo(found[i]) ? 1 : 0);
+            }
             for (int size = 0; size <= EARS; size++) {
                 for (int set = 0; set < SETS; set++) {
                     if (Integer.bitCount(set) != size || (set & liarSet) != 0) continue;
@@ -1677,12 +1678,13 @@ public final class EarField {
         // Courses heard alike by the set share one place in heardAs: a bit for each way of the claim.
         private boolean isSettledBy(int set, int many) {
             matchSpots(set);
-            Arrays.fill(heardAs, (byte) 0);
+            Arrays.fill(heardAs, 0);
             for (int i = 0; i < many && i < MOST_COURSES; i++) {
-                int place = heardPlace(found[i]);
+                int place = heardPlace(found[i] >> 1);
                 if (place < 0 || place >= MOST_COURSES) continue;
-                heardAs[place] |= (byte) spare[i];
-                if (heardAs[place] == 3) return false;
+                int shift = 2 * (place % PLACES);
+                heardAs[place / PLACES] |= 1 + (found[i] & 1) << shift;
+                if ((heardAs[place / PLACES] >> shift & 3) == 3) return false;
             }
             return true;
         }
