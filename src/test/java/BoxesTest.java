@@ -330,46 +330,10 @@ public final class BoxesTest {
         y.ticks(1);
         due.is("2 met 3 at the root", y.lost(3), 4);
         due.is("1 heard 3 alone", y.at(1, 5), 1);
-        // Full rows.
-        EarField z = Due.chain(3, 1000);
-        z.rounds(2);
-        for (int i = 0; i < 4; i++) z.say(1, i);
-        z.hears(0, 1, false);
-        z.say(2, 7);
-        z.sleep(1, 2, 1);
-        z.ticks(1);
-        due.is("1 spoke", z.lost(3), 1);
-        z.say(1, 4);
-        z.power(1, 1000);
-        z.rounds(1);
-        due.is("1 looks for a parent elsewhere", z.at(1, 2), 2);
     }
 
     private static void deadBoxes() {
         due.about("13, 12: what dies");
-        // A branch without a parent whose row is full.
-        EarField x = new EarField();
-        for (int i = 0; i < 3; i++) x.box(1, 1000);
-        Due.link(x, 0, 1);
-        Due.link(x, 1, 2);
-        x.rounds(2);
-        x.hears(0, 1, false);
-        x.hears(1, 2, false);
-        x.rounds(1);
-        due.is("1 has no parent now", x.at(1, 2), -1);
-        x.hears(1, 2, true);
-        for (int i = 0; i < 4; i++) x.say(1, i);
-        due.is("2 has none either", x.at(2, 2), -1);
-        Due.link(x, 0, 1);
-        x.rounds(1);
-        x.hears(1, 2, true);
-        x.rounds(1);
-        due.is("2 has one", x.at(2, 2), 1);
-        x.hears(0, 1, false);
-        x.hears(2, 1, false);
-        x.rounds(1);
-        due.is("1 has none", x.at(1, 2), -1);
-        due.is("and 2", x.at(2, 2), -1);
         // What spends its last in a tick is dead for the steps behind the first.
         EarField y = Due.chain(2, 1);
         y.rounds(1);

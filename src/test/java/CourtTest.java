@@ -243,6 +243,21 @@ public final class CourtTest {
         z.ear(1, 0);
         z.log(1, 0, 1);
         due.is("none agrees", z.settle(0, 1, 0, 0, 0), 0);
+        // Each of six ears keeps two courses apart that no other one does.
+        EarField v = new EarField();
+        v.days(2);
+        v.set(6, 2);
+        for (int a = 0; a < 6; a++) for (int b = 0; b < a; b++) v.way(a, b, true);
+        for (int ear = 1; ear < 6; ear++) {
+            v.ear(ear, 1 << ear);
+            v.log(ear, 1, 0);
+        }
+        v.ear(0, 1);
+        v.log(0, 0, 0);
+        due.is("all courses", v.courses(), 36);
+        due.is("all six", v.settle(0, 0, 0, 0, 1), 63);
+        v.liars(32);
+        due.is("five are not enough", v.settle(0, 0, 0, 0, 1), -1);
         // Ears that hear many ticks of a long row.
         EarField w = new EarField();
         w.days(5);

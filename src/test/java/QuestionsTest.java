@@ -12,6 +12,7 @@ public final class QuestionsTest {
         sums();
         late();
         rowsOfSums();
+        lastInRow();
         due.end("QuestionsTest");
     }
 
@@ -84,6 +85,16 @@ public final class QuestionsTest {
         fault("count where loud above", 22);
         fault("count where loud above -3 every 5", 23);
         fault("12 every 5", 0);
+        fault("every 5", 0);
+        fault("where loud above 3 every 5", 0);
+        fault("loud every 5", 0);
+        fault("count where every 5", 12);
+        fault("count where loud every 5", 17);
+        fault("count where box 3 every 5", 16);
+        fault("count where above 3 every 5", 12);
+        fault("count where loud above 3 box above 3 every 5", 25);
+        fault("count where loud above 3 and and every 5", 29);
+        fault("count every 5 every 5", 14);
         fault("\u00e9count every 5", 0);
         fault("count every 5\u0000", 13);
         // Tokens are rows of one kind: no blank must stand between unlike ones.
@@ -225,7 +236,7 @@ public final class QuestionsTest {
                 x.box(1, 1000);
                 x.loud(i, 0, 3 + i);
             }
-            x.loud(1, 0, texts[k].startsWith("loud below 5") || k == 0 ? k == 0 ? 5 : 4 : 4);
+            if (k == 0) x.loud(1, 0, 5);
             Due.link(x, 0, 1);
             Due.link(x, 1, 2);
             Due.link(x, 2, 3);
@@ -277,14 +288,19 @@ public final class QuestionsTest {
         Due.link(w, 0, 1);
         Due.link(w, 1, 2);
         w.rounds(2);
-        for (int i = 0; i < 3; i++) w.loud(i, 0, i + 1);
-        Due.ask(w, "count every 30");
+        for (int i = 0; i < 3; i++) for (int h = 0; h < 24; h++) w.loud(i, h, i + 1);
+        Due.ask(w, "count every 5");
         w.ticks(1);
         due.is("2's sum in 1's row", w.at(1, 5), 1);
         w.ticks(2);
         due.is("two sums got home", w.lost(6), 2);
         due.is("each once", w.result(2), 3);
         due.is("all", w.result(3), 6);
+        for (int epoch = 2; epoch < 6; epoch++) {
+            w.ticks(5);
+            due.is("each once in epoch " + epoch, w.result(4), 7);
+            due.is("all in epoch " + epoch, w.result(3), 6);
+        }
         // A branch whose sum was said hands on, too.
         EarField v = Due.chain(3, 1000);
         v.rounds(2);
@@ -304,8 +320,6 @@ public final class QuestionsTest {
         u.rounds(2);
         for (int i = 0; i < 3; i++) u.loud(i, 0, i + 1);
         u.sleep(1, 2, 2);
-        u.clock(2, 0, 0);
-        u.sleep(2, 2, 3);
         Due.ask(u, "count every 30");
         u.ticks(1);
         due.is("2 said it to one asleep", u.lost(2), 1);
@@ -358,24 +372,8 @@ public final class QuestionsTest {
         due.is("home", x.result(5), 5);
         due.is("words first", x.kept(0), 3);
         // A row that is full loses what it gets.
-        EarField y = new EarField();
-        for (int i = 0; i < 6; i++) y.box(0, 1000);
-        Due.link(y, 0, 1);
-        Due.link(y, 1, 2);
-        y.rounds(2);
-        y.power(0, 0);
-        y.rounds(1);
-        y.power(0, 1000);
-        due.is("1 clings to 2", y.at(1, 2), 2);
-        for (int i = 0; i < 4; i++) y.say(1, i);
-        for (int i = 0; i < 4; i++) y.say(2, 10 + i);
-        y.sleep(1, 1, 1);
-        y.ticks(1);
-        due.is("both spoke, both met", y.lost(3), 2);
-        due.is("three and three", y.at(1, 5) + y.at(2, 5), 6);
-        y.say(1, 9);
-        y.hears(0, 1, false);
-        EarField z = full();
+        EarField z = stray(4);
+        z.say(2, 50);
         due.is("four in the row", z.at(1, 5), 4);
         z.ticks(1);
         due.is("lost by a full row", z.lost(4), 1);
@@ -384,8 +382,24 @@ public final class QuestionsTest {
         due.is("not met", z.lost(3), 0);
     }
 
-    // Box 1 hears its child 2, has no parent itself, and has a full row.
-    private static EarField full() {
+    // A sum at the very end of a row is late as well.
+    private static void lastInRow() {
+        due.about("13: late at the end of a row");
+        EarField y = stray(3);
+        for (int h = 0; h < 24; h++) y.loud(2, h, 5);
+        Due.ask(y, "count every 10");
+        y.ticks(1);
+        due.is("three words and a sum", y.at(1, 5), 4);
+        due.is("2 told all it had", y.at(2, 5), 0);
+        y.ticks(9);
+        due.is("none late yet", y.lost(5), 0);
+        y.ticks(1);
+        due.is("the sum is late", y.lost(5), 1);
+        due.is("and the next one is there", y.at(1, 5), 4);
+    }
+
+    // Box 1 hears its child 2, has no parent itself, and so many words in its row.
+    private static EarField stray(int words) {
         EarField z = new EarField();
         for (int i = 0; i < 3; i++) z.box(0, 1000);
         Due.link(z, 0, 1);
@@ -395,8 +409,7 @@ public final class QuestionsTest {
         z.hears(0, 1, false);
         z.rounds(1);
         z.power(2, 1000);
-        for (int i = 0; i < 4; i++) z.say(1, i);
-        z.say(2, 50);
+        for (int i = 0; i < words; i++) z.say(1, i);
         return z;
     }
 }

@@ -144,13 +144,21 @@ public final class RandomRunsTest {
 
     private void spoil(StringBuilder text) {
         int place = random.nextInt(text.length() + 1);
-        switch (random.nextInt(5)) {
+        switch (random.nextInt(7)) {
             case 0: text.setLength(place); break;
+            case 5: case 6: dropToken(text); break;
             case 1: text.insert(place, WORDS[random.nextInt(WORDS.length)]); break;
             case 2: text.insert(place, " " + WORDS[random.nextInt(WORDS.length)] + " "); break;
             case 3: text.insert(place, (char) random.nextInt(256)); break;
             default: if (place < text.length()) text.deleteCharAt(place);
         }
+    }
+
+    private void dropToken(StringBuilder text) {
+        String[] tokens = text.toString().split(" ");
+        tokens[random.nextInt(tokens.length)] = "";
+        text.setLength(0);
+        text.append(String.join(" ", tokens));
     }
 
     private boolean powerStep() {
