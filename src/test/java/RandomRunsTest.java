@@ -1,3 +1,4 @@
+import java.lang.reflect.Method;
 import java.util.ArrayList;
 import java.util.List;
 import java.util.Random;
@@ -229,115 +230,37 @@ public final class RandomRunsTest {
     }
 
     private boolean call(String name, long... v) {
-        int[] i = new int[6];
-        for (int k = 0; k < v.length; k++) i[k] = (int) v[k];
-        long got = onReal(name, i, v);
-        long due = onPlain(name, i, v);
+        long got = answer(real, name, v);
+        long due = answer(plain, name, v);
         StringBuilder told = new StringBuilder(name + "(");
         for (int k = 0; k < v.length; k++) told.append(k == 0 ? "" : ", ").append(v[k]);
         calls.add(told + ") answered " + got + (got == due ? "" : ", due is " + due));
         return got == due;
     }
 
-    private long onReal(String name, int[] i, long[] v) {
-        EarField x = real;
-        switch (name) {
-            case "box": return x.box(i[0], i[1]);
-            case "hears": return x.hears(i[0], i[1], i[2] == 1);
-            case "sleep": return x.sleep(i[0], i[1], i[2]);
-            case "clock": return x.clock(i[0], i[1], i[2]);
-            case "set": return x.set(i[0], i[1]);
-            case "power": return x.power(i[0], i[1]);
-            case "at": return x.at(i[0], i[1]);
-            case "rounds": return x.rounds(i[0]);
-            case "rings": return x.rings();
-            case "say": return x.say(i[0], i[1]);
-            case "ticks": return x.ticks(i[0]);
-            case "lost": return x.lost(i[0]);
-            case "kept": return x.kept(i[0]);
-            case "write": return x.write(v[0], i[1]);
-            case "erase": return x.erase();
-            case "fault": return x.fault();
-            case "ask": return x.ask();
-            case "loud": return x.loud(i[0], i[1], i[2]);
-            case "lies": return x.lies(i[0], i[1]);
-            case "result": return x.result(i[0]);
-            case "foretold": return x.foretold(i[0], i[1]);
-            case "life": return x.life(i[0]);
-            case "longest": return x.longest();
-            case "best": return x.best(i[0]);
-            case "fact": return x.fact(i[0], i[1], i[2], i[3], i[4]);
-            case "hour": return x.hour(i[0], i[1], i[2]);
-            case "place": return x.place(i[0], i[1]);
-            case "cells": return x.cells(i[0], i[1]);
-            case "program": return x.program(i[0], v[1]);
-            case "hand": return x.hand();
-            case "tear": return x.tear(i[0], i[1], i[2]);
-            case "has": return x.has(i[0], i[1]);
-            case "begin": return x.begin(i[0]);
-            case "days": return x.days(i[0]);
-            case "way": return x.way(i[0], i[1], i[2] == 1);
-            case "ear": return x.ear(i[0], i[1]);
-            case "log": return x.log(i[0], i[1], i[2]);
-            case "liars": return x.liars(i[0]);
-            case "courses": return x.courses();
-            case "course": return x.course(i[0], i[1]);
-            case "judge": return x.judge(i[0], i[1], i[2], i[3], i[4]);
-            case "quarrel": return x.quarrel();
-            case "settle": return x.settle(i[0], i[1], i[2], i[3], i[4]);
-            case "count": return x.count(i[0]);
-            default: throw new IllegalArgumentException(name);
+    private static long answer(Object of, String name, long[] v) {
+        for (Method m : of.getClass().getDeclaredMethods()) {
+            if (!m.getName().equals(name) || m.getParameterCount() != v.length || isHelper(m)) continue;
+            Object[] with = new Object[v.length];
+            for (int k = 0; k < v.length; k++) {
+                Class<?> kind = m.getParameterTypes()[k];
+                if (kind == boolean.class) with[k] = v[k] == 1;
+                else if (kind == long.class) with[k] = v[k];
+                else with[k] = (int) v[k];
+            }
+            try {
+                return ((Number) m.invoke(of, with)).longValue();
+            } catch (ReflectiveOperationException e) {
+                throw new IllegalStateException(name, e);
+            }
         }
+        throw new IllegalArgumentException(name);
     }
 
-    private long onPlain(String name, int[] i, long[] v) {
-        Plain x = plain;
-        switch (name) {
-            case "box": return x.box(i[0], i[1]);
-            case "hears": return x.hears(i[0], i[1], i[2] == 1);
-            case "sleep": return x.sleep(i[0], i[1], i[2]);
-            case "clock": return x.clock(i[0], i[1], i[2]);
-            case "set": return x.set(i[0], i[1]);
-            case "power": return x.power(i[0], i[1]);
-            case "at": return x.at(i[0], i[1]);
-            case "rounds": return x.rounds(i[0]);
-            case "rings": return x.rings();
-            case "say": return x.say(i[0], i[1]);
-            case "ticks": return x.ticks(i[0]);
-            case "lost": return x.lost(i[0]);
-            case "kept": return x.kept(i[0]);
-            case "write": return x.write(v[0], i[1]);
-            case "erase": return x.erase();
-            case "fault": return x.fault();
-            case "ask": return x.ask();
-            case "loud": return x.loud(i[0], i[1], i[2]);
-            case "lies": return x.lies(i[0], i[1]);
-            case "result": return x.result(i[0]);
-            case "foretold": return x.foretold(i[0], i[1]);
-            case "life": return x.life(i[0]);
-            case "longest": return x.longest();
-            case "best": return x.best(i[0]);
-            case "fact": return x.fact(i[0], i[1], i[2], i[3], i[4]);
-            case "hour": return x.hour(i[0], i[1], i[2]);
-            case "place": return x.place(i[0], i[1]);
-            case "cells": return x.cells(i[0], i[1]);
-            case "program": return x.program(i[0], v[1]);
-            case "hand": return x.hand();
-            case "tear": return x.tear(i[0], i[1], i[2]);
-            case "has": return x.has(i[0], i[1]);
-            case "begin": return x.begin(i[0]);
-            case "days": return x.days(i[0]);
-            case "way": return x.way(i[0], i[1], i[2] == 1);
-            case "ear": return x.ear(i[0], i[1]);
-            case "log": return x.log(i[0], i[1], i[2]);
-            case "liars": return x.liars(i[0]);
-            case "courses": return x.courses();
-            case "course": return x.course(i[0], i[1]);
-            case "judge": return x.judge(i[0], i[1], i[2], i[3], i[4]);
-            case "quarrel": return x.quarrel();
-            case "settle": return x.settle(i[0], i[1], i[2], i[3], i[4]);
-            case "count": return x.count(i[0]);
-            default: throw new IllegalArgumentException(name);
-        }
+    // The plain model has helpers by the names of calls, but they answer other kinds.
+    private static boolean isHelper(Method m) {
+        if (m.getReturnType() != int.class && m.getReturnType() != long.class) return true;
+        for (Class<?> kind : m.getParameterTypes()) if (!kind.isPrimitive()) return true;
+        return false;
     }
 }
