@@ -349,8 +349,9 @@ public final class EarField {
         }
     }
 
+    // Only a CLAIM of sort 1 has a second SPOT; for sort 0, d is a number that must be 0.
     private int refusedClaim(int sort, int c, int d, int a, int b) {
-        if (!court.hasSpot(c) || !court.hasSpot(d)) return UNKNOWN;
+        if (!court.hasSpot(c) || sort == 1 && !court.hasSpot(d)) return UNKNOWN;
         if (!court.hasTick(a) || !court.hasTick(b)) return UNKNOWN;
         if (outside(sort, 0, 1) || sort == 0 && d != 0 || a > b) return OUTSIDE;
         return 0;

@@ -1,3 +1,5 @@
+import java.util.Arrays;
+
 // Promises 35 to 45.
 public final class CourtTest {
     private static final Due due = new Due();
@@ -273,12 +275,21 @@ public final class CourtTest {
     private static void refusedClaims() {
         due.about("42, 44: refused");
         EarField x = new EarField();
-        int[][] claims = {{0, -1, 0, 0, 0}, {0, 6, 0, 0, 0}, {1, 0, 6, 0, 0}, {1, 0, -1, 0, 0}, {0, 0, 0, -1, 0}, {0, 0, 0, 0, 4},
-            {0, 0, 0, 4, 0}, {0, 0, 0, 0, -1}, {2, 6, 0, 0, 0}, {0, 0, 1, 0, 0}, {0, 0, 0, 1, 0}, {2, 0, 0, 0, 0}, {-1, 0, 0, 0, 0}};
+        int[][] unknown = {{0, -1, 0, 0, 0}, {0, 6, 0, 0, 0}, {1, -1, 0, 0, 0}, {1, 6, 0, 0, 0}, {1, 0, 6, 0, 0}, {1, 0, -1, 0, 0},
+            {0, 0, 0, -1, 0}, {0, 0, 0, 0, 4}, {0, 0, 0, 4, 0}, {0, 0, 0, 0, -1}, {2, 6, 0, 0, 0}, {2, 0, 0, 0, 4}, {0, 6, -1, 0, 0},
+            {0, 0, 1, -1, 0}, {1, 0, 6, 1, 0}, {0, 0, 0, 4, 3}};
+        // Of sort 0 d is no SPOT but a number; nor is it one of a sort that there is not.
+        int[][] outside = {{0, 0, 1, 0, 0}, {0, 0, 5, 0, 3}, {0, 0, 6, 0, 0}, {0, 0, -1, 0, 0}, {0, 5, Integer.MIN_VALUE, 0, 0},
+            {0, 0, Integer.MAX_VALUE, 3, 3}, {0, 0, 0, 1, 0}, {1, 0, 0, 3, 2}, {2, 0, 0, 0, 0}, {-1, 0, 0, 0, 0}, {2, 0, 6, 0, 0},
+            {-1, 0, -1, 0, 0}};
+        refused(x, unknown, EarField.UNKNOWN);
+        refused(x, outside, EarField.OUTSIDE);
+    }
+
+    private static void refused(EarField x, int[][] claims, int how) {
         for (int[] c : claims) {
-            boolean unknown = c[1] < 0 || c[1] > 5 || c[2] < 0 || c[2] > 5 || c[3] < 0 || c[3] > 3 || c[4] < 0 || c[4] > 3;
-            due.is("judge", x.judge(c[0], c[1], c[2], c[3], c[4]), unknown ? -2 : -3);
-            due.is("settle", x.settle(c[0], c[1], c[2], c[3], c[4]), unknown ? -2 : -3);
+            due.is("judge" + Arrays.toString(c), x.judge(c[0], c[1], c[2], c[3], c[4]), how);
+            due.is("settle" + Arrays.toString(c), x.settle(c[0], c[1], c[2], c[3], c[4]), how);
         }
     }
 

@@ -739,7 +739,8 @@ final class Plain {
     }
 
     int refused(int sort, int c, int d, int a, int b) {
-        if (c < 0 || c > 5 || d < 0 || d > 5 || a < 0 || a >= days || b < 0 || b >= days) return UNKNOWN;
+        if (c < 0 || c > 5 || a < 0 || a >= days || b < 0 || b >= days) return UNKNOWN;
+        if (sort == 1 && (d < 0 || d > 5)) return UNKNOWN;
         return sort < 0 || sort > 1 || sort == 0 && d != 0 || a > b ? OUTSIDE : 0;
     }
 

@@ -224,7 +224,7 @@ public final class RandomRunsTest {
 
     private boolean claim(String what) {
         int sort = in(0, 1);
-        int d = sort == 0 && random.nextInt(10) != 0 ? 0 : in(0, 5);
+        int d = sort == 0 && random.nextInt(10) != 0 ? 0 : random.nextInt(20) == 0 ? in(-2, 8) : in(0, 5);
         int a = in(0, plain.days - 1);
         return call(what, sort, in(0, 5), d, a, in(Math.max(0, Math.min(a, plain.days - 1)), plain.days - 1));
     }
