@@ -497,6 +497,23 @@ public final class BoxesEdgeTest {
             x.rounds(20);
             due.is("they count themselves out", x.rings(), 0);
         }
+        // Those whose way leads to a ring are not in it, whatever their numbers.
+        for (int tail = 1; tail <= 9; tail++) {
+            EarField x = new EarField();
+            for (int b = 0; b < 10; b++) x.box(0, 100);
+            int one = tail == 4 ? 6 : 4;
+            int other = tail == 5 ? 6 : 5;
+            Due.link(x, 0, one);
+            Due.link(x, one, other);
+            Due.link(x, other, tail);
+            x.rounds(3);
+            due.is("its way", x.at(tail, 2), other);
+            x.hears(0, one, false);
+            x.power(tail, 0);
+            x.rounds(1);
+            due.is("one ring, and " + tail + " leads to it", x.rings(), 1);
+            due.is("its way still", x.at(tail, 2), other);
+        }
     }
 
     private static void words() {

@@ -26,6 +26,7 @@ public final class CourtEdgeTest {
         judged();
         quarrelSizes();
         quarrelOrder();
+        quarrelByWays();
         quarrelWithLiars();
         settledSizes();
         settledOrder();
@@ -287,6 +288,14 @@ public final class CourtEdgeTest {
         rich.outside("i", 0, 2, (y, v) -> y.course(0, v), -2);
         due.is("the first", x.course(0, 0), 0);
         due.is("the last", x.course(many - 1, 2), 3);
+        // No further one at all, though more of them were told of ahead of it.
+        EarField z = open(5);
+        due.is("all agree", z.courses(), 7776);
+        z.ear(0, 1);
+        for (int tick = 0; tick < 5; tick++) z.log(0, tick, 1);
+        due.is("one is left", z.course(0, 4), 0);
+        for (int k = 1; k < 9000; k = 3 * k + 1) due.is("no COURSE " + k, z.course(k, 0), -2);
+        due.is("no COURSE 7775", z.course(7775, 0), -2);
         new Refusal(due, () -> open(5)).outside("k of all", 0, 7775, (y, v) -> y.course(v, 4), -2);
         new Refusal(due, () -> open(1)).outside("k of six", 0, 5, (y, v) -> y.course(v, 0), -2);
         new Refusal(due, () -> open(1)).outside("i of one", 0, 0, (y, v) -> y.course(5, v), -2);
@@ -544,6 +553,28 @@ public final class CourtEdgeTest {
         due.is("not heard on the way", z.quarrel(), 1);
         z.set(6, 1);
         due.is("that may be MISSED", z.quarrel(), 0);
+    }
+
+    private static void quarrelByWays() {
+        due.about("Terms: from TICK to TICK stays or goes a WAY, in a QUARREL too");
+        // A line 0 1 2 3 4 5: so far as there are TICKS between, and no farther; forth and back.
+        for (int from = 0; from < 6; from++) {
+            for (int to = 0; to < 6; to++) {
+                for (int days = 2; days <= 5; days++) {
+                    EarField x = new EarField();
+                    x.days(days);
+                    for (int spot = 0; spot < 5; spot++) x.way(spot, spot + 1, true);
+                    x.ear(0, 1 << from);
+                    x.ear(1, 1 << to);
+                    x.log(0, 0, 1);
+                    x.log(1, days - 1, 1);
+                    boolean can = Math.abs(from - to) < days;
+                    due.is(from + " to " + to + " in " + days, x.quarrel(), can ? 0 : 1);
+                    due.is("some COURSE", x.courses() > 0 ? 1 : 0, can ? 1 : 0);
+                    due.is("told again", x.quarrel(), can ? 0 : 1);
+                }
+            }
+        }
     }
 
     private static void quarrelWithLiars() {

@@ -20,6 +20,8 @@ public final class PowerEdgeTest {
         greatest();
         firstOfSeveral();
         parentsThatWere();
+        childrenOfAll();
+        treesThatWere();
         manyTrees();
         bestWho();
         tellingOnly();
@@ -340,6 +342,69 @@ public final class PowerEdgeTest {
         x.power(2, 0);
         due.is("a DEAD child is none there", x.longest(), 100 / 6);
         due.is("but in FORETOLD it is", x.foretold(1, 1), 8);
+    }
+
+    private static void childrenOfAll() {
+        due.about("24: LIFE by the children of the TREE, THE ROOT's too");
+        for (int children = 1; children <= 9; children++) {
+            EarField x = new EarField();
+            for (int b = 0; b < 10; b++) x.box(1, 30000);
+            for (int b = 1; b <= children; b++) Due.link(x, 0, b);
+            Due.ask(x, "count every 1");
+            x.power(0, 10 * (1 + 2 * children));
+            due.is("THE ROOT has " + children, x.longest(), 10);
+            x.power(0, 10 * (1 + 2 * children) - 1);
+            due.is("one less", x.longest(), 9);
+        }
+        // 8 and 9 at THE ROOT, and 1 and 2 behind them: the first BOXES of the order have a choice.
+        for (int set = 0; set < 4; set++) {
+            EarField x = new EarField();
+            for (int b = 0; b < 10; b++) x.box(1, 30000);
+            for (int b = 8; b < 10; b++) {
+                Due.link(x, 0, b);
+                for (int leaf = 1; leaf < 3; leaf++) Due.link(x, b, leaf);
+            }
+            Due.ask(x, "count every 1");
+            if ((set & 1) == 1) x.hears(8, 1, false);
+            if ((set & 2) == 2) x.hears(8, 2, false);
+            due.is("PARENT of 1", x.best(1), (set & 1) == 1 ? 9 : 8);
+            due.is("PARENT of 2", x.best(2), (set & 2) == 2 ? 9 : 8);
+            x.power(8, 80);
+            x.power(9, 80);
+            due.is("each takes one at most", x.longest(), set == 3 ? 8 : 10);
+            due.is("then PARENT of 1", x.best(1), (set & 1) == 1 ? 9 : 8);
+            due.is("then PARENT of 2", x.best(2), set == 1 ? 8 : 9);
+            x.power(8, 60);
+            x.power(9, 100);
+            due.is("8 takes none", x.longest(), 10);
+            due.is("so PARENT of 1", x.best(1), 9);
+            due.is("so PARENT of 2", x.best(2), 9);
+        }
+    }
+
+    private static void treesThatWere() {
+        due.about("24, 25: nothing is left of TREES that were told ahead of it");
+        EarField x = two(60, 1200);
+        due.is("1 takes none", x.longest(), 10);
+        for (int b = 3; b < 6; b++) due.is("PARENT of " + b, x.best(b), 2);
+        x.power(5, 0);
+        due.is("5 is DEAD", x.longest(), 10);
+        due.is("it has no PARENT", x.best(5), -1);
+        due.is("3 goes to 2", x.best(3), 2);
+        x.power(5, 6000);
+        x.hears(5, 1, false);
+        x.hears(5, 2, false);
+        due.is("5 has no way home", x.longest(), 10);
+        due.is("so it has no PARENT", x.best(5), -1);
+        due.is("4 goes to 2", x.best(4), 2);
+        // With two of its own 2 lives a TICK less than with one more, that is none now.
+        x.power(2, 100);
+        due.is("2 takes two", x.longest(), 10);
+        due.is("3", x.best(3), 2);
+        due.is("4", x.best(4), 2);
+        x.power(0, 0);
+        due.is("no way home for any", x.longest(), 60);
+        for (int b = 0; b < 6; b++) due.is("no PARENT of " + b, x.best(b), -1);
     }
 
     private static void manyTrees() {

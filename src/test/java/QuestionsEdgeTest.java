@@ -17,6 +17,7 @@ public final class QuestionsEdgeTest {
         tooSoon();
         condsAtMost();
         whatMayStand();
+        eachLetter();
         faultChangesNothing();
         asked();
         notAsked();
@@ -266,10 +267,47 @@ public final class QuestionsEdgeTest {
         fault("most every 5", 5);
     }
 
+    private static void eachLetter() {
+        due.about("Terms: each word letter for letter");
+        String[] words = {"least", "most", "mean", "loud", "count", "where", "and", "every", "box", "above", "below"};
+        String[] texts = {"least loud where loud above 3 and box below 7 every 5", "most loud every 5", "mean loud every 5", "count every 5"};
+        for (String text : texts) {
+            for (String word : words) {
+                int place = text.indexOf(word);
+                if (place < 0) continue;
+                for (int i = 0; i < word.length(); i++) {
+                    String wrong = word.substring(0, i) + "q" + word.substring(i + 1);
+                    fault(text.replaceFirst(word, wrong), place);
+                    fault(text.replaceFirst(word, word.substring(0, i) + word.substring(i + 1)), place);
+                    fault(text.replaceFirst(word, word.substring(0, i) + "q" + word.substring(i)), place);
+                }
+            }
+        }
+    }
+
     private static void faultChangesNothing() {
         due.about("17: telling it changes nothing");
-        rich.is("fault", x -> x.fault(), 11);
-        new Refusal(due, () -> text("count every 5")).is("none", x -> x.fault(), -1);
+        // However often it is told, and whatever was written and erased ahead of it.
+        EarField x = Due.chain(4, 100);
+        x.rounds(3);
+        for (int b = 0; b < 4; b++) x.loud(b, 0, 5);
+        for (int i = 0; i < 9; i++) {
+            x.erase();
+            Due.write(x, "least loud where box above 2 and box above 3 every 7");
+            due.is("no FAULT", x.fault(), -1);
+        }
+        x.erase();
+        Due.write(x, "count where box above 1 evry 9");
+        due.is("a FAULT", x.ask(), -4);
+        due.is("EVERY of the last", Due.ask(x, "count where box below 2 every 9"), 9);
+        x.ticks(5);
+        due.is("its COND alone", x.result(4), 3);
+        due.is("count", x.result(5), 2);
+        due.is("then without any", Due.ask(x, "most loud every 24"), 24);
+        x.ticks(25);
+        due.is("all", x.result(4), 15);
+        rich.is("fault", y -> y.fault(), 11);
+        new Refusal(due, () -> text("count every 5")).is("none", y -> y.fault(), -1);
     }
 
     private static void asked() {
@@ -314,7 +352,8 @@ public final class QuestionsEdgeTest {
         due.is("the root and 1", x.result(4), 3);
         due.is("2's SUM is in its ROW", x.at(2, 5), 1);
         due.is("asked", Due.ask(x, "least loud every 5"), 5);
-        due.is("no RESULT", x.result(2), 0);
+        int[] none = {-1, -1, 0, 0, 0, -1, -1};
+        for (int what = 0; what < 7; what++) due.is("no RESULT " + what, x.result(what), none[what]);
         due.is("no SUM in the ROW", x.at(2, 5), 0);
         due.is("none LATE", x.lost(5), 0);
         x.ticks(4);
@@ -392,6 +431,12 @@ public final class QuestionsEdgeTest {
             x.loud(0, 0, 0);
             x.ticks(24);
             for (int what = 0; what < 7; what++) due.is(aims[aim] + " of one 0: " + what, x.result(what), one[what]);
+            x.loud(0, 0, 7);
+            x.ticks(24);
+            due.is("then 7", x.result(3), 7);
+            x.loud(0, 0, 16);
+            x.ticks(24);
+            for (int what = 0; what < 7; what++) due.is(aims[aim] + " of none again: " + what, x.result(what), none[what]);
         }
     }
 

@@ -36,7 +36,7 @@ public final class RandomRunsTest {
     private boolean run(long seed) {
         start();
         // What an object answers beyond its 512th call is free.
-        for (int i = 0; i < 400 && calls.size() < 480; i++) {
+        for (int i = 0; i < 400 && calls.size() < 440; i++) {
             if (!step()) {
                 System.out.println("seed " + seed + ":");
                 for (String call : calls) System.out.println("  " + call);

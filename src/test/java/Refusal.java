@@ -53,6 +53,7 @@ final class Refusal {
 
     // All that only tells something.
     private static void tell(EarField x, List<Long> to) {
+        int boxes = x.count(0);
         for (int i = 0; i < 7; i++) add(to, x.count(i));
         for (int i = 0; i < 8; i++) add(to, x.lost(i));
         for (int i = 0; i < 7; i++) add(to, x.result(i));
@@ -65,7 +66,7 @@ final class Refusal {
         add(to, x.quarrel());
         for (int spot = 0; spot < 6; spot++) add(to, x.judge(0, spot, 0, 0, 0));
         add(to, x.settle(0, 1, 0, 0, 0));
-        for (int b = 0; b < x.count(0); b++) {
+        for (int b = 0; b < boxes; b++) {
             for (int what = 0; what < 6; what++) add(to, x.at(b, what));
             for (int what = 0; what < 3; what++) add(to, x.has(b, what));
             for (int m = 0; m < 3; m++) add(to, x.hour(b, m, m & 1));
@@ -78,15 +79,17 @@ final class Refusal {
 
     // What one tells of as it is taken away: who hears whom, and what is known of hours.
     private static void emptyEars(EarField x, List<Long> to) {
-        for (int a = 0; a < x.count(0); a++) {
-            for (int b = 0; b < x.count(0); b++) add(to, x.hears(a, b, false));
+        int boxes = x.count(0);
+        for (int a = 0; a < boxes; a++) {
+            for (int b = 0; b < boxes; b++) add(to, x.hears(a, b, false));
             for (int h = 0; h < 24; h++) add(to, x.loud(a, h, 16));
         }
     }
 
     private static void emptyRest(EarField x, List<Long> to) {
+        int boxes = x.count(0);
         for (int what = 0; what < 7; what++) add(to, x.set(what, 1));
-        for (int b = 0; b < x.count(0); b++) {
+        for (int b = 0; b < boxes; b++) {
             add(to, x.lies(b, 16));
             add(to, x.place(b, 36));
             for (int part = 0; part < 8; part++) add(to, x.tear(b, part, 0));
@@ -106,9 +109,10 @@ final class Refusal {
 
     // Sleep rows and clocks come to light as ticks pass, and so do words in rows.
     private static void passTicks(EarField x, List<Long> to) {
-        for (int i = 0; i < 14; i++) {
+        int boxes = x.count(0);
+        for (int i = 0; i < 12; i++) {
             add(to, x.ticks(1));
-            for (int b = 0; b < x.count(0); b++) {
+            for (int b = 0; b < boxes; b++) {
                 add(to, x.at(b, 4));
                 add(to, x.at(b, 0));
             }
@@ -117,19 +121,20 @@ final class Refusal {
         }
         for (int i = 0; i < 8; i++) add(to, x.lost(i));
         for (int i = 0; i < 12; i++) add(to, x.kept(i));
-        for (int b = 0; b < x.count(0); b++) add(to, x.at(b, 3));
+        for (int b = 0; b < boxes; b++) add(to, x.at(b, 3));
     }
 
     private static void goOn(EarField x, List<Long> to) {
-        add(to, x.write(0x20202020L, 4));
+        int boxes = x.count(0);
+        add(to, x.write(0x20352020L, 4));
         add(to, x.fault());
         add(to, x.ask());
-        add(to, x.begin((1 << x.count(0)) - 1));
+        add(to, x.begin((1 << boxes) - 1));
         add(to, x.begin(1));
         for (int i = 0; i < 4; i++) {
             add(to, x.hand());
             add(to, x.rounds(1));
-            for (int b = 0; b < x.count(0); b++) {
+            for (int b = 0; b < boxes; b++) {
                 add(to, x.has(b, 0));
                 add(to, x.has(b, 2));
                 add(to, x.at(b, 1));
@@ -138,7 +143,7 @@ final class Refusal {
         }
         add(to, x.ticks(60));
         for (int i = 0; i < 7; i++) add(to, x.result(i));
-        for (int b = 0; b < x.count(0); b++) add(to, x.at(b, 0));
+        for (int b = 0; b < boxes; b++) add(to, x.at(b, 0));
         add(to, x.program(1, 5));
         add(to, x.box(1, 5));
     }

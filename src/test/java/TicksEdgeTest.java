@@ -17,6 +17,7 @@ public final class TicksEdgeTest {
         held();
         deepestOfAny();
         roomInRow();
+        notInRow();
         saysTheFirst();
         hearsOneAlone();
         toldToAnother();
@@ -342,6 +343,15 @@ public final class TicksEdgeTest {
         due.is("one asleep counts", x.lost(7), 0);
         x.ticks(1);
         due.is("in 4", x.lost(7), 1);
+        EarField z = three(1, 1000);
+        z.set(4, 4);
+        z.loud(1, 0, 5);
+        Due.ask(z, "count every 60");
+        z.power(2, 0);
+        z.ticks(4);
+        due.is("any BOX: a DEAD one that has a COUNT", z.lost(7), 0);
+        z.ticks(1);
+        due.is("in 4 too", z.lost(7), 1);
         EarField y = star(2, 1000);
         y.set(4, 9);
         y.loud(1, 0, 5);
@@ -369,6 +379,35 @@ public final class TicksEdgeTest {
             x.ticks(1);
             due.is("once", x.lost(6), words + 1);
         }
+    }
+
+    private static void notInRow() {
+        due.about("Terms: A BOX with a PARENT that is AWAKE puts its SUM at the end of its ROW");
+        EarField x = Due.chain(2, 1000);
+        x.loud(1, 0, 5);
+        Due.ask(x, "count every 60");
+        for (int t = 0; t < 3; t++) {
+            x.ticks(1);
+            due.is("without a PARENT it does not", x.at(1, 5), 0);
+        }
+        x.rounds(1);
+        x.ticks(1);
+        due.is("with one it does, and says it", x.result(4), 2);
+        // HOLD 2: in 2 and 3 it sleeps, in 4 it is awake.
+        EarField y = three(1, 1000);
+        y.set(4, 2);
+        y.sleep(1, 6, 51);
+        y.loud(1, 0, 5);
+        y.say(1, 9);
+        Due.ask(y, "count every 60");
+        y.ticks(1);
+        due.is("its word is said in 0", y.kept(0), 9);
+        for (int t = 1; t < 4; t++) {
+            y.ticks(1);
+            due.is("in " + t + " its ROW is empty", y.at(1, 5), 0);
+        }
+        y.ticks(1);
+        due.is("in 4 it says it", y.result(4), 2);
     }
 
     private static void saysTheFirst() {
